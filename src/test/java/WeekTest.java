@@ -27,6 +27,9 @@ public final class WeekTest {
         for (int[] one : due) {
             Check.due("town(0, " + one[0] + ")", x.town(0, one[0]), one[1]);
         }
+        for (int what = 34; what < 100; what++) {
+            Check.due("town(0, " + what + ")", x.town(0, what), -1);
+        }
         Check.due("town(1, 0)", x.town(1, 0), -1);
         Check.due("town(-1, 0)", x.town(-1, 0), -1);
     }
