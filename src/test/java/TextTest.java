@@ -87,95 +87,87 @@ public final class TextTest {
         Check.due("DEEDS", x.deed(0, -1, 0), 1);
     }
 
-    private static void fault(int sort, String text, int what, int place) {
-        KeptCompany x = new KeptCompany();
-        Check.due("text " + text, Check.tell(x, sort, -1, text), what == 0 ? 0 : -1);
-        Check.due("FAULT of " + text, x.fault(0), what);
-        Check.due("its place in " + text, x.fault(1), place);
-        Check.due("count behind " + text, x.count(sort), what == 0 ? 1 : 0);
-    }
-
     private static void grammarFaults() {
-        fault(0, "person1 2;", 0, -1);
-        fault(0, "\nperson 01 02 ;;", 1, 15);
-        fault(0, "person 1 2", 1, 10);
-        fault(0, "person 1 2  ", 1, 12);
-        fault(0, "person 1;", 1, 8);
-        fault(0, "person 1 2 3;", 1, 11);
-        fault(0, "person 1 100;", 1, 9);
-        fault(0, "person 100", 1, 7);
-        fault(0, "person 1 2;Person 1 2;", 1, 11);
-        fault(0, "person 1 2;persons 1 2;", 1, 11);
-        fault(0, "perso 1 2;", 1, 0);
-        fault(0, "person 1 2;sit 0 1;", 1, 11);
-        fault(0, "person 1,2;", 1, 8);
-        fault(0, "person\t1 2;", 1, 6);
-        fault(0, "person 1 2;" + (char) 233, 1, 11);
-        fault(0, "person 1 2;" + (char) 0, 1, 11);
-        fault(0, "person person", 1, 7);
-        fault(0, "1", 1, 0);
-        fault(0, ";", 1, 0);
-        fault(0, "owes 0 1;", 1, 8);
-        fault(1, "hour 1;", 1, 5);
-        fault(1, "hour;hour", 1, 9);
-        fault(1, "forgive 0 1;", 1, 11);
-        fault(1, "silent;", 1, 6);
-        fault(1, "silent 0 1;", 1, 9);
-        fault(1, "together 0 1;", 1, 0);
-        fault(2, "apart 0;", 1, 7);
-        fault(2, "apart 0 1 2;", 1, 10);
-        fault(2, "hour;", 1, 0);
-        fault(1, "hour;silent 0;sit 0 1;lend 0 1 1;pay 0 1 30;forgive 5 4 2;talks 5;", 0, -1);
-        fault(2, "together 0 1;apart 5 4;", 0, -1);
+        Check.fault(0, "person1 2;", 0, -1);
+        Check.fault(0, "\nperson 01 02 ;;", 1, 15);
+        Check.fault(0, "person 1 2", 1, 10);
+        Check.fault(0, "person 1 2  ", 1, 12);
+        Check.fault(0, "person 1;", 1, 8);
+        Check.fault(0, "person 1 2 3;", 1, 11);
+        Check.fault(0, "person 1 100;", 1, 9);
+        Check.fault(0, "person 100", 1, 7);
+        Check.fault(0, "person 1 2;Person 1 2;", 1, 11);
+        Check.fault(0, "person 1 2;persons 1 2;", 1, 11);
+        Check.fault(0, "perso 1 2;", 1, 0);
+        Check.fault(0, "person 1 2;sit 0 1;", 1, 11);
+        Check.fault(0, "person 1,2;", 1, 8);
+        Check.fault(0, "person\t1 2;", 1, 6);
+        Check.fault(0, "person 1 2;" + (char) 233, 1, 11);
+        Check.fault(0, "person 1 2;" + (char) 0, 1, 11);
+        Check.fault(0, "person person", 1, 7);
+        Check.fault(0, "1", 1, 0);
+        Check.fault(0, ";", 1, 0);
+        Check.fault(0, "owes 0 1;", 1, 8);
+        Check.fault(1, "hour 1;", 1, 5);
+        Check.fault(1, "hour;hour", 1, 9);
+        Check.fault(1, "forgive 0 1;", 1, 11);
+        Check.fault(1, "silent;", 1, 6);
+        Check.fault(1, "silent 0 1;", 1, 9);
+        Check.fault(1, "together 0 1;", 1, 0);
+        Check.fault(2, "apart 0;", 1, 7);
+        Check.fault(2, "apart 0 1 2;", 1, 10);
+        Check.fault(2, "hour;", 1, 0);
+        Check.fault(1, "hour;silent 0;sit 0 1;lend 0 1 1;pay 0 1 30;forgive 5 4 2;talks 5;", 0, -1);
+        Check.fault(2, "together 0 1;apart 5 4;", 0, -1);
     }
 
     private static void numberFaults() {
-        fault(0, "person 10 0;", 2, 7);
-        fault(0, "person 9 99;", 0, -1);
-        fault(0, "hate 1 1;", 2, 7);
-        fault(0, "hate 6 6;", 2, 5);
-        fault(0, "hate 0 6;", 2, 7);
-        fault(0, "owes 0 0 1;", 2, 7);
-        fault(0, "owes 0 1 31;", 2, 9);
-        fault(0, "person 0 0;person 0 0;owes 0 1 30;owes 0 1 0;", 0, -1);
-        fault(1, "sit 0 0;", 2, 6);
-        fault(1, "sit 6 0;", 2, 4);
-        fault(1, "lend 0 1 0;", 2, 9);
-        fault(1, "lend 3 3 1;", 2, 7);
-        fault(1, "pay 0 1 31;", 2, 8);
-        fault(1, "forgive 0 1 0;", 2, 12);
-        fault(1, "silent 6;", 2, 7);
-        fault(1, "talks 06;", 2, 6);
-        fault(2, "together 0 0;", 2, 11);
-        fault(2, "apart 6 0;", 2, 6);
+        Check.fault(0, "person 10 0;", 2, 7);
+        Check.fault(0, "person 9 99;", 0, -1);
+        Check.fault(0, "hate 1 1;", 2, 7);
+        Check.fault(0, "hate 6 6;", 2, 5);
+        Check.fault(0, "hate 0 6;", 2, 7);
+        Check.fault(0, "owes 0 0 1;", 2, 7);
+        Check.fault(0, "owes 0 1 31;", 2, 9);
+        Check.fault(0, "person 0 0;person 0 0;owes 0 1 30;owes 0 1 0;", 0, -1);
+        Check.fault(1, "sit 0 0;", 2, 6);
+        Check.fault(1, "sit 6 0;", 2, 4);
+        Check.fault(1, "lend 0 1 0;", 2, 9);
+        Check.fault(1, "lend 3 3 1;", 2, 7);
+        Check.fault(1, "pay 0 1 31;", 2, 8);
+        Check.fault(1, "forgive 0 1 0;", 2, 12);
+        Check.fault(1, "silent 6;", 2, 7);
+        Check.fault(1, "talks 06;", 2, 6);
+        Check.fault(2, "together 0 0;", 2, 11);
+        Check.fault(2, "apart 6 0;", 2, 6);
     }
 
     private static void tooManyFaults() {
-        fault(0, "person 0 0;".repeat(6), 0, -1);
-        fault(0, "person 0 0;".repeat(7), 3, 66);
-        fault(0, "person 0 0;".repeat(6) + "person 10 0;", 3, 66);
-        fault(0, "person 0 0;".repeat(5) + "person 10 0;person 0 0;", 2, 62);
-        fault(1, "hour;".repeat(40), 0, -1);
-        fault(1, "hour;".repeat(41), 3, 200);
-        fault(1, "hour;".repeat(40) + " sit 6 6;", 3, 201);
-        fault(2, "apart 0 1;".repeat(8), 0, -1);
-        fault(2, "apart 0 1;".repeat(9), 3, 80);
-        fault(2, "apart 0 1;".repeat(9) + "apart 0", 1, 97);
+        Check.fault(0, "person 0 0;".repeat(6), 0, -1);
+        Check.fault(0, "person 0 0;".repeat(7), 3, 66);
+        Check.fault(0, "person 0 0;".repeat(6) + "person 10 0;", 3, 66);
+        Check.fault(0, "person 0 0;".repeat(5) + "person 10 0;person 0 0;", 2, 62);
+        Check.fault(1, "hour;".repeat(40), 0, -1);
+        Check.fault(1, "hour;".repeat(41), 3, 200);
+        Check.fault(1, "hour;".repeat(40) + " sit 6 6;", 3, 201);
+        Check.fault(2, "apart 0 1;".repeat(8), 0, -1);
+        Check.fault(2, "apart 0 1;".repeat(9), 3, 80);
+        Check.fault(2, "apart 0 1;".repeat(9) + "apart 0", 1, 97);
     }
 
     private static void missingPersonFaults() {
-        fault(0, "person 0 0;hate 0 1;", 4, 20);
-        fault(0, "hate 0 1;person 0 0;person 0 0;  ", 0, -1);
-        fault(0, "person 0 0;owes 1 0 0; ", 4, 23);
-        fault(0, "owes 0 5 0;", 4, 11);
-        fault(0, "hate 0 1;hate 2 2;", 2, 16);
+        Check.fault(0, "person 0 0;hate 0 1;", 4, 20);
+        Check.fault(0, "hate 0 1;person 0 0;person 0 0;  ", 0, -1);
+        Check.fault(0, "person 0 0;owes 1 0 0; ", 4, 23);
+        Check.fault(0, "owes 0 5 0;", 4, 11);
+        Check.fault(0, "hate 0 1;hate 2 2;", 2, 16);
     }
 
     private static void firstFaultByPlace() {
-        fault(0, "hate 1 1;hate 0 9;person", 1, 24);
-        fault(0, "hate 0 9;hate 1 1;", 2, 7);
-        fault(1, "sit 0 9;" + "hour;".repeat(41), 2, 6);
-        fault(1, "hour;".repeat(41) + "sit 0 9;", 3, 200);
+        Check.fault(0, "hate 1 1;hate 0 9;person", 1, 24);
+        Check.fault(0, "hate 0 9;hate 1 1;", 2, 7);
+        Check.fault(1, "sit 0 9;" + "hour;".repeat(41), 2, 6);
+        Check.fault(1, "hour;".repeat(41) + "sit 0 9;", 3, 200);
     }
 
     private static void images() {
