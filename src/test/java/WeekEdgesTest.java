@@ -476,6 +476,7 @@ public final class WeekEdgesTest {
         Check.due("n 99", x.grown(1, 0, 99), 10);
         Check.says("Promise 29", "NONE: other numbers.");
         Check.dueOfEach("v", new int[] {MIN, -2, -1, 100, 101, MAX}, v -> x.grown(v, 0, 0), -1);
+        Check.dueOfEach("v, with hours behind which it would be 0", new int[] {MIN, -2, -1}, v -> x.grown(v, 9, 12), -1);
         Check.dueOfEach("k", new int[] {MIN, -2, -1, 10, 11, MAX}, k -> x.grown(5, k, 0), -1);
         Check.dueOfEach("n", new int[] {MIN, -2, -1, 100, 101, MAX}, n -> x.grown(5, 0, n), -1);
     }
